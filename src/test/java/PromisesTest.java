@@ -124,16 +124,18 @@ public final class PromisesTest {
     }
 
     private static void promise3FirstRules() {
+        // Two fails at a BAD edition begin to count all at once when it passes: X is 2, N 18 or 19.
         FlakyBounds x = withTests(2);
-        // LOWER for 50 is 21 of (N 72..), so use the nearest that one fail can give: N 2, 3 on both sides of 20.
-        runs(x, 0, 0, true, 2);
-        runs(x, 0, 0, false, 1);
-        due("3 LOWER of 1 in 3", x.bound(0, 50, false), 17);
-        due("3 at first MARK is 20: 17", x.about(0, 4), 0);
-        runs(x, 1, 0, true, 1);
-        runs(x, 1, 0, false, 1);
-        due("3 LOWER of 1 in 2", x.bound(1, 50, false), 26);
-        due("3 at first MARK is 20: 26", x.about(1, 4), 1);
+        for (int i = 0; i < 2; i++) {
+            runs(x, i, 1, false, 2);
+            runs(x, i, 2, true, 15 + i);
+            due("3 not marked before", x.about(i, 4), 0);
+            runs(x, i, 1, true, 1);
+        }
+        due("3 LOWER of 2 in 18", x.bound(0, 50, false), 21);
+        due("3 at first MARK is 20: 21 is above", x.about(0, 4), 1);
+        due("3 LOWER of 2 in 19", x.bound(1, 50, false), 20);
+        due("3 at first MARK is 20: 20 isn't above", x.about(1, 4), 0);
     }
 
     private static void promise3ExactMark() {

@@ -7,9 +7,9 @@ import java.util.Random;
 
 /** Runs of up to 512 calls, each answer against a slow model that follows the document word by word. */
 public final class RandomCallsTest {
-    private static final int OBJECTS = 400;
+    private static final int OBJECTS = 300;
     private static final BigInteger THOUSAND = BigInteger.valueOf(1000);
-    private static final Map<Integer, BigInteger> SUMS = new HashMap<>();
+    private static final Map<Integer, BigInteger[]> SUMS = new HashMap<>();
 
     private record Run(int edition, boolean pass) { }
 
@@ -180,21 +180,23 @@ public final class RandomCallsTest {
     }
 
     private static BigInteger sum(int n, int x, int j, boolean most) {
-        int key = ((n * 49 + x) * 1001 + j) * 2 + (most ? 1 : 0);
-        BigInteger known = SUMS.get(key);
-        if (known != null) {
-            return known;
+        BigInteger[] sums = SUMS.computeIfAbsent(n * 1001 + j, key -> sumsUpTo(n, j));
+        if (most) {
+            return sums[x];
         }
-        BigInteger answer = BigInteger.ZERO;
+        return x == 0 ? sums[n] : sums[n].subtract(sums[x - 1]);
+    }
+
+    private static BigInteger[] sumsUpTo(int n, int j) {
+        BigInteger[] answer = new BigInteger[n + 1];
+        BigInteger sum = BigInteger.ZERO;
         BigInteger over = BigInteger.ONE;
         for (int i = 0; i <= n; i++) {
-            if (most ? i <= x : i >= x) {
-                BigInteger hits = BigInteger.valueOf(j).pow(i);
-                answer = answer.add(over.multiply(hits).multiply(BigInteger.valueOf(1000 - j).pow(n - i)));
-            }
+            BigInteger hits = BigInteger.valueOf(j).pow(i);
+            sum = sum.add(over.multiply(hits).multiply(BigInteger.valueOf(1000 - j).pow(n - i)));
+            answer[i] = sum;
             over = over.multiply(BigInteger.valueOf(n - i)).divide(BigInteger.valueOf(i + 1));
         }
-        SUMS.put(key, answer);
         return answer;
     }
 
