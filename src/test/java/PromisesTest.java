@@ -49,18 +49,30 @@ public final class PromisesTest {
         Set<String> members = new TreeSet<>();
         for (Method m : FlakyBounds.class.getDeclaredMethods()) {
             if (!Modifier.isPrivate(m.getModifiers())) {
-                members.add(m.getName());
+                members.add(m.toString());
             }
         }
         for (Field f : FlakyBounds.class.getDeclaredFields()) {
             if (!Modifier.isPrivate(f.getModifiers())) {
-                members.add(f.getName());
+                members.add(f.toString());
             }
         }
-        Constructor<?>[] constructors = FlakyBounds.class.getDeclaredConstructors();
-        due("constructors", constructors.length, 1);
-        Set<String> want = Set.of("NONE", "test", "rules", "run", "judge", "about", "bound", "share", "isBad", "broken");
-        due("the face is the document's", members.equals(want), true);
+        for (Constructor<?> c : FlakyBounds.class.getDeclaredConstructors()) {
+            members.add(c.toString());
+        }
+        Set<String> want = Set.of(
+                "public static final int FlakyBounds.NONE",
+                "public FlakyBounds()",
+                "public int FlakyBounds.test()",
+                "public boolean FlakyBounds.rules(int,int,int)",
+                "public boolean FlakyBounds.run(int,int,boolean)",
+                "public int FlakyBounds.judge(int,int,boolean)",
+                "public int FlakyBounds.about(int,int)",
+                "public int FlakyBounds.bound(int,int,boolean)",
+                "public long FlakyBounds.share(int,int,boolean,int)",
+                "public boolean FlakyBounds.isBad(int,int)",
+                "public int FlakyBounds.broken(int)");
+        due("the face is the document's, and not " + members, members.equals(want), true);
         due("final", Modifier.isFinal(FlakyBounds.class.getModifiers()), true);
         due("NONE", FlakyBounds.NONE, -1);
     }
@@ -442,8 +454,28 @@ public final class PromisesTest {
         due("10 it became clear", x.broken(77), 0x7f7);
     }
 
+    /** The calls of README.md, in its order. */
+    private static void readmeExample() {
+        FlakyBounds bounds = new FlakyBounds();
+        due("README rules", bounds.rules(50, 20, 5), true);
+        int test = bounds.test();
+        due("README test", test, 0);
+        due("README run 6", bounds.run(test, 6, false), true);
+        due("README isBad", bounds.isBad(test, 6), true);
+        due("README broken 6", bounds.broken(6), 1);
+        due("README run 7", bounds.run(test, 7, true), true);
+        due("README run 7", bounds.run(test, 7, false), true);
+        due("README about", bounds.about(test, 4), 1);
+        due("README bound", bounds.bound(test, 50, false), 26);
+        due("README share", bounds.share(test, 500, true, 6), 750000);
+        due("README judge", bounds.judge(test, 8, false), 0);
+        due("README judge", bounds.judge(test, 8, true), 2);
+        due("README broken 8", bounds.broken(8), 0);
+    }
+
     public static void main(String[] args) {
         face();
+        readmeExample();
         promise1NewObject();
         promise2Test();
         promise3Ranges();
